@@ -811,7 +811,9 @@ public final class AheadStore {
         }
 
         void lose(int p) {
-            Arrays.fill(disk, p * PER_PAGE, p * PER_PAGE + PER_PAGE, 0);
+            for (int i = 0; i < PER_PAGE; i++) {
+                disk[p * PER_PAGE + i] = 0;
+            }
             diskStamps[p] = 0;
             lost |= 1 << p;
         }
