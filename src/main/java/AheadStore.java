@@ -162,7 +162,6 @@ public final class AheadStore {
         if (now.up || n < NONE || n > 99) {
             return NONE;
         }
-        recovery.reset();
         return recovery.attempt(now, n);
     }
 
@@ -606,14 +605,18 @@ public final class AheadStore {
 
         boolean wholeAt(int s) {
             int length = byteAt(s + 1);
-            if (s < FIRST || length < SHORTEST || length > endPlace - s || length != lengthDue(s)) {
+            int last = s + length - 1;
+            if (s < FIRST || length < SHORTEST || length != lengthDue(s)) {
+                return false;
+            }
+            if (last >= endPlace || last >= row.length) {
                 return false;
             }
             int sum = CHECK_SEED;
-            for (int i = s; i < s + length - 1; i++) {
-                sum += byteAt(i);
+            for (int i = s; i < last; i++) {
+                sum += row[i];
             }
-            return (sum & 255) == byteAt(s + length - 1);
+            return (sum & 255) == row[last];
         }
 
         boolean beginsAt(int s) {
@@ -776,7 +779,6 @@ public final class AheadStore {
                 System.arraycopy(disk, p * PER_PAGE, copies, f * PER_PAGE, PER_PAGE);
                 held[f] = p;
                 stamps[f] = diskStamps[p];
-                recs[f] = 0;
             }
             clock++;
             uses[f] = clock;
@@ -1463,7 +1465,6 @@ public final class AheadStore {
 
         void reset() {
             analysed = false;
-            losers = 0;
             compensated = 0;
             ended = 0;
             redoneInAll = 0;
@@ -1491,7 +1492,6 @@ public final class AheadStore {
 
         private void analyse(World world) {
             Journal journal = world.journal;
-            world.roster.clear();
             Arrays.fill(unclean, 0);
             int s = world.firstFrom();
             while (s < journal.endPlace && journal.wholeAt(s)) {

@@ -4,6 +4,7 @@ public final class CrashTest {
         wrongInputs();
         tornEnds();
         committed();
+        committedByNumber();
         stamps();
         losers();
         crashedInItself();
@@ -76,6 +77,22 @@ public final class CrashTest {
         Due.is("REC", x.page(0, 3), 14);
         Due.is("STAMP", x.page(0, 0), 32);
         Due.is("running", x.look(6) | x.look(7), 0);
+    }
+
+    private static void committedByNumber() {
+        AheadStore x = new AheadStore();
+        for (int t = 9; t >= 7; t--) {
+            x.act(t, 0);
+            x.write(t, t, t);
+        }
+        x.act(9, 1);
+        x.crash(0);
+        Due.is("7 for 9 first, then 7, 8 are undone", x.recover(-1), 5);
+        Due.is("KIND", x.record(59, 0), 7);
+        Due.is("WHO", x.record(59, 2), 9);
+        Due.is("then the latest of 7", x.record(65, 2), 7);
+        Due.is("at(9, 0)", x.at(9, 0), 9);
+        Due.is("at(8, 0)", x.at(8, 0), 0);
     }
 
     private static void stamps() {

@@ -3,6 +3,8 @@ public final class ImageTest {
     public static void main(String[] args) {
         images();
         everything();
+        savepointsAndTops();
+        archive();
         looks();
         Due.end("ImageTest");
     }
@@ -87,6 +89,52 @@ public final class ImageTest {
         x.write(8, 48, 1);
         Due.is("when it was used, too", x.page(0, 2), -1);
         Due.is("PAGE 1", x.page(1, 2), 1);
+    }
+
+    private static void savepointsAndTops() {
+        AheadStore x = new AheadStore();
+        x.act(9, 0);
+        x.save(9);
+        x.write(9, 0, 1);
+        x.act(9, 3);
+        x.write(9, 1, 1);
+        x.image(true);
+        x.act(9, 2);
+        x.roll(9, 9);
+        x.act(9, 0);
+        x.write(9, 0, 1);
+        x.save(9);
+        x.act(9, 3);
+        x.image(false);
+        Due.yes("close", x.act(9, 4));
+        Due.is("NEXT is what was put by", x.record(32, 4), 14);
+        Due.is("back to where it was", x.back(9, 0), 1);
+        Due.is("at(0, 0)", x.at(0, 0), 0);
+        Due.is("at(1, 0)", x.at(1, 0), 1);
+    }
+
+    private static void archive() {
+        AheadStore x = new AheadStore();
+        x.frames(1);
+        x.act(1, 0);
+        x.write(1, 0, 7);
+        x.act(1, 1);
+        x.act(2, 0);
+        x.write(2, 16, 1);
+        x.keep(4, 0);
+        Due.yes("lost", x.keep(5, 0));
+        Due.is("would restores it out of the ARCHIVE", x.would(0, 0, 0), 7);
+        x.image(true);
+        x.keep(6, 0);
+        x.act(2, 1);
+        x.act(1, 0);
+        x.write(1, 0, 9);
+        x.write(1, 16, 9);
+        x.keep(4, 0);
+        x.image(false);
+        Due.is("ARCHIVE", x.page(0, 5), 14);
+        x.keep(6, 0);
+        Due.is("at(0, 1)", x.at(0, 1), 7);
     }
 
     private static void looks() {

@@ -74,6 +74,15 @@ public final class PlanTest {
         fault("Flush;", 1, 0);
         fault("flushh;", 1, 0);
         fault("flus;", 1, 0);
+        for (char letter : new char[] {'a', 'z', 'A', 'Z'}) {
+            fault("flush" + letter + ";", 1, 0);
+        }
+        for (char sign : new char[] {'@', '[', '`', '{', '/', ':', 0, 31, 127, 255}) {
+            fault("flush" + sign + ";", 1, 5);
+        }
+        fault("1 write 1/ 1;", 1, 9);
+        fault("1 write 1: 1;", 1, 9);
+        good("9 roll 9;", 1);
         fault("flush check;", 1, 6);
         fault("flush 1;", 1, 6);
         fault("1 begin 1;", 1, 8);

@@ -77,6 +77,12 @@ public final class StandbyTest {
         Due.is("stand(1, 1): a closed top action", x.stand(1, 1), 5);
         Due.is("stand(2, 1)", x.stand(2, 1), 9);
         Due.is("DONE", x.look(16), x.look(2));
+        x.act(2, 0);
+        x.write(2, 2, 8);
+        x.keep(0, 0);
+        x.ship(999);
+        Due.is("2 has begun anew and lost", x.stand(2, 1), 9);
+        Due.is("stand(2, 0)", x.stand(2, 0), 8);
         x.act(1, 2);
         x.roll(1, 1);
         x.keep(0, 0);

@@ -36,6 +36,8 @@ public final class StoreTest {
         for (int k = 1; k <= 10; k++) {
             Due.is("new: count(" + k + ")", x.count(k), 0);
         }
+        Due.is("new: fault(0)", x.fault(0), 0);
+        Due.is("new: fault(1)", x.fault(1), -1);
         for (int a : new int[] {-1, 256, Integer.MIN_VALUE, Integer.MAX_VALUE}) {
             Due.is("at(" + a + ", 0)", x.at(a, 0), -1);
             Due.is("page(" + a + ", 0)", x.page(a, 0), -1);

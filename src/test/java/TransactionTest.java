@@ -151,6 +151,12 @@ public final class TransactionTest {
         Due.is("TOPS whose STAMP is that of s stay", x.tx(1, 4), 1);
         Due.yes("close", x.act(1, 4));
         Due.is("NEXT is what was put by", x.record(x.tx(1, 1), 4), 8);
+        for (int i = 0; i < 4; i++) {
+            x.write(1, 9, i);
+            x.act(1, 3);
+        }
+        Due.is("back over four TOPS", x.back(1, 0), 4);
+        Due.is("all are gone", x.tx(1, 4), 0);
         x.save(1);
         x.act(1, 3);
         x.write(1, 5, 1);
