@@ -111,6 +111,9 @@ public final class StandbyTest {
         }
         Due.is("asOf(-1, 8)", x.asOf(-1, 8), -1);
         Due.is("asOf(256, 8)", x.asOf(256, 8), -1);
+        Due.is("ship up to 14", x.ship(15), 23);
+        Due.is("asOf(0, 23): 1 is committed", x.asOf(0, 23), 5);
+        Due.is("but not by what the standby has", x.stand(0, 1), 0);
         x.crash(0);
         Due.is("DOWN, what was not flushed is gone", x.asOf(0, 55), -1);
         Due.is("DOWN", x.asOf(0, 49), 11);
