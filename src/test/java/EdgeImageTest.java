@@ -13,6 +13,8 @@ public final class EdgeImageTest {
         notTheFault();
         withThePlan();
         withTheStandby();
+        withThoseAtTheEdge();
+        withTheArchive();
         lookOutside();
         lookAtTheEdge();
         Due.end("EdgeImageTest");
@@ -221,6 +223,79 @@ public final class EdgeImageTest {
         Due.is("STAMP", x.stand(0, 2), 0);
         x.ship(999);
         Due.is("byte 0", x.stand(0, 0), 1);
+    }
+
+    /** 1 and 9 have savepoints and TOPS, and WAIT for each other. */
+    private static void marked(AheadStore x) {
+        for (int t : new int[] {1, 9}) {
+            x.act(t, 0);
+            x.write(t, 16 * t, t);
+            x.save(t);
+            x.write(t, 16 * t, 100 + t);
+            x.act(t, 3);
+            x.write(t, 16 * t, 200 + t);
+        }
+        x.write(1, 144, 1);
+        x.write(9, 16, 1);
+    }
+
+    /** What goes back to savepoints and closes TOPS, so that what they are shows. */
+    private static void used(AheadStore x) {
+        for (int t : new int[] {1, 9}) {
+            x.act(t, 4);
+            x.back(t, 0);
+            x.act(t, 1);
+        }
+    }
+
+    /** Transactions 1 and 9, which others have taken the place of since */
+    private static void withThoseAtTheEdge() {
+        Consumer<AheadStore> gone = x -> {
+            marked(x);
+            x.image(true);
+            for (int t : new int[] {1, 9}) {
+                x.act(t, 2);
+                x.roll(t, 20);
+                x.act(t, 0);
+                x.save(t);
+                x.act(t, 3);
+                x.write(t, t, t);
+                x.save(t);
+                x.act(t, 3);
+                x.act(t, 2);
+            }
+            x.image(false);
+        };
+        Whole.same("1 and 9", EdgeImageTest::marked, gone);
+        Consumer<AheadStore> on = EdgeImageTest::marked;
+        Whole.same("1 and 9, and what goes on", on.andThen(EdgeImageTest::used), gone.andThen(EdgeImageTest::used));
+        AheadStore x = new AheadStore();
+        gone.accept(x);
+        Due.is("DEADLOCK", x.look(17), 2 + 512);
+        Due.yes("close", x.act(9, 4));
+        Due.is("NEXT", x.record(x.tx(9, 1), 4), 56);
+        Due.is("back", x.back(9, 0), 1);
+        Due.is("byte 144", x.at(144, 0), 9);
+    }
+
+    private static void withTheArchive() {
+        AheadStore x = new AheadStore();
+        x.frames(1);
+        x.act(1, 0);
+        x.write(1, 0, 7);
+        x.write(1, 16, 1);
+        x.keep(4, 0);
+        x.image(true);
+        x.write(1, 0, 9);
+        x.write(1, 16, 2);
+        x.keep(4, 0);
+        x.image(false);
+        x.act(1, 1);
+        Due.is("its STAMP", x.page(0, 5), 14);
+        Due.yes("lost", x.keep(5, 0));
+        Due.is("byte 0, in thought", x.would(0, 0, 0), 7);
+        Due.yes("restored", x.keep(6, 0));
+        Due.is("its byte", x.at(0, 1), 7);
     }
 
     /** "NONE - 99999 for another what" */

@@ -262,6 +262,12 @@ public final class EdgePlanTest {
     /** "letters (a .. z, A .. Z) as many as stand together are those words or none" */
     private static void lettersOfWords() {
         good("1begin;flush;page0;1roll1;1write0 0;1add255 255;", 6);
+        for (char letter : new char[] {'a', 'z', 'A', 'Z'}) {
+            bad("flush" + letter + ";", 1, 0);
+            bad(letter + "flush;", 1, 0);
+            bad("1 " + letter, 1, 2);
+            bad("1 roll 1" + letter + ";", 1, 8);
+        }
         bad("flushover;", 1, 0);
         bad("1 beginn;", 1, 2);
         bad("1 begi;", 1, 2);

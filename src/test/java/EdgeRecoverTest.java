@@ -26,6 +26,9 @@ public final class EdgeRecoverTest {
         lesserRec();
         lesserRecTold();
         recAtLeast();
+        uncleanOfThisOneAlone();
+        asManyTransactionsAsTold();
+        asManyPagesAsTold();
         stampsGuard();
         greatestCursor();
         alikeLeastNumber();
@@ -424,6 +427,61 @@ public final class EdgeRecoverTest {
         Due.is("PAGE 3 is not fetched", x.page(3, 2), -1);
         Due.is("REDONE", x.look(12), 3);
         Due.is("REC of PAGE 0", x.page(0, 3), 50);
+    }
+
+    /** What an earlier ANALYSIS, or one in thought, found unclean is not asked. */
+    private static void uncleanOfThisOneAlone() {
+        AheadStore x = new AheadStore();
+        x.act(1, 0);
+        x.write(1, 0, 1);
+        x.act(1, 1);
+        x.crash(99);
+        x.recover(-1);
+        Due.is("PAGE 0 was unclean", x.page(0, 3), 14);
+        x.keep(1, 0);
+        x.keep(2, 0);
+        x.keep(3, 0);
+        x.act(2, 0);
+        x.write(2, 16, 1);
+        x.keep(0, 0);
+        x.crash(0);
+        x.recover(-1);
+        Due.is("PAGE 1", x.page(1, 2), 0);
+        Due.is("PAGE 0 is not fetched", x.page(0, 2), -1);
+    }
+
+    /** "how many transactions (0 .. 9)": what lies behind them in a record 10 is none more */
+    private static void asManyTransactionsAsTold() {
+        for (int p = 1; p <= 2; p++) {
+            AheadStore x = new AheadStore();
+            x.act(5, 0);
+            x.write(5, 16 * p, 1);
+            x.keep(2, 0);
+            x.keep(3, 0);
+            x.crash(0);
+            Due.is("one PAGE, number " + p, x.log(29 + 10), 1);
+            Due.is("LOSERS", x.would(0, 0, 261), 32);
+            Due.is("recover", x.recover(-1), 2);
+        }
+    }
+
+    /** "how many PAGES are not clean (0 .. 8)": CHECK, which is behind them, is none more, though it is like one */
+    private static void asManyPagesAsTold() {
+        for (int p = 0; p < 16; p++) {
+            AheadStore x = new AheadStore();
+            x.act(5, 0);
+            x.write(5, 16 * p, 1);
+            for (int i = 0; i < 13; i++) {
+                x.add(5, 16 * p, 1);
+            }
+            x.keep(2, 0);
+            x.keep(3, 0);
+            Due.is("CHECK is " + p, x.log(x.look(1) - 1), p);
+            x.crash(0);
+            Due.is("REDONE", x.would(0, 0, 258), 14);
+            Due.is("recover", x.recover(-1), 15);
+            Due.is("the byte", x.at(16 * p, 0), 0);
+        }
     }
 
     /** "is its STAMP less than the record's, the record is done": alike it is not */

@@ -25,6 +25,8 @@ public final class EdgeStandbyTest {
         asOfEachRecord();
         asOfWhenDown();
         asOfWraps();
+        nothingStays();
+        becomesV();
         Due.end("EdgeStandbyTest");
     }
 
@@ -360,5 +362,52 @@ public final class EdgeStandbyTest {
         Due.is("asOf(0, 41): 4, and 10 less", x.asOf(0, 41), 250);
         Due.is("asOf(0, 55): 24, and 30 less", x.asOf(0, 55), 250);
         Due.is("asOf(0, 63): 24, and 10 less", x.asOf(0, 63), 14);
+    }
+
+    /** In thought: one that was committed there without its record 7 is not so in the next thought. */
+    private static void nothingStays() {
+        AheadStore x = new AheadStore();
+        x.act(1, 0);
+        x.write(1, 0, 1);
+        x.act(1, 1);
+        x.act(1, 0);
+        x.write(1, 0, 2);
+        x.keep(0, 0);
+        // 1 at 8, 2 at 14, 5 at 23, 7 at 29, 1 at 35, 2 at 41
+        Due.is("asOf(0, 23)", x.asOf(0, 23), 1);
+        Due.is("asOf(0, 14): not committed yet", x.asOf(0, 14), 0);
+        Due.is("ship", x.ship(15), 23);
+        Due.is("asOf(0, 23)", x.asOf(0, 23), 1);
+        Due.is("taken over: not committed yet", x.stand(0, 1), 0);
+        Due.is("ship", x.ship(6), 29);
+        Due.is("taken over: committed", x.stand(0, 1), 1);
+        Due.is("asOf(0, 14): not committed yet", x.asOf(0, 14), 0);
+        Due.is("taken over: committed", x.stand(0, 1), 1);
+    }
+
+    /** "HOW (0: it becomes V; 1: V more, modulo 256)": by the standby, AS OF, RESTORE and REDO alike */
+    private static void becomesV() {
+        AheadStore x = new AheadStore();
+        x.frames(1);
+        x.act(1, 0);
+        x.write(1, 0, 5);
+        x.save(1);
+        x.write(1, 0, 9);
+        x.add(1, 1, 7);
+        x.add(1, 1, 6);
+        x.back(1, 0);
+        x.act(1, 1);
+        x.ship(999);
+        Due.is("byte 0 of the standby", x.stand(0, 0), 5);
+        Due.is("byte 1 of the standby", x.stand(1, 0), 0);
+        Due.is("byte 0 AS OF its 5", x.asOf(0, 81), 5);
+        Due.is("KIND", x.record(81, 0), 5);
+        Due.is("byte 0 in thought", x.would(0, 0, 0), 5);
+        x.act(2, 0);
+        x.write(2, 16, 1);
+        x.keep(5, 0);
+        x.keep(6, 0);
+        Due.is("byte 0 restored", x.at(0, 1), 5);
+        Due.is("byte 1 restored", x.at(1, 1), 0);
     }
 }

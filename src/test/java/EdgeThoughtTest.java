@@ -265,6 +265,16 @@ public final class EdgeThoughtTest {
         Due.is("DOWN anew", x.look(9), 8);
         x.recover(-1);
         Due.is("UP, and DISK has all", x.look(9), 41);
+        for (int t : new int[] {1, 9}) {
+            AheadStore y = new AheadStore();
+            y.act(5, 0);
+            y.act(5, 1);
+            y.act(t, 0);
+            y.keep(2, 0);
+            y.keep(3, 0);
+            Due.is("MASTER", y.look(3), 32);
+            Due.is("record 1 of " + t, y.look(9), 26);
+        }
     }
 
     private static AheadStore three() {
@@ -389,6 +399,23 @@ public final class EdgeThoughtTest {
         Due.is("yet", x.tx(4, 5), 4);
         x.roll(2, 1);
         Due.is("2 is gone", x.tx(4, 5), 0);
+        AheadStore y = new AheadStore();
+        y.act(1, 0);
+        y.act(5, 0);
+        y.act(9, 0);
+        y.write(5, 0, 1);
+        y.write(1, 0, 1);
+        y.add(9, 0, 1);
+        Due.is("1 WAITS for 5", y.tx(1, 5), 32);
+        Due.is("9 WAITS for 5", y.tx(9, 5), 32);
+        y.act(5, 1);
+        Due.is("1 no more", y.tx(1, 5), 0);
+        Due.is("9 no more", y.tx(9, 5), 0);
+        y.write(9, 0, 1);
+        y.write(1, 0, 1);
+        Due.is("1 WAITS for 9", y.tx(1, 5), 512);
+        y.act(9, 1);
+        Due.is("1 no more", y.tx(1, 5), 0);
     }
 
     /** "a CRASH: nobody waits" */
@@ -518,6 +545,16 @@ public final class EdgeThoughtTest {
         Due.is("victim", ring(1, 2).victim(), 2);
         Due.is("victim", ring(2, 1).victim(), 3);
         Due.is("victim", ring(9, 8).victim(), 3);
+        AheadStore x = new AheadStore();
+        x.act(1, 0);
+        x.act(9, 0);
+        x.write(1, 0, 1);
+        x.write(1, 0, 2);
+        x.write(9, 1, 1);
+        x.write(1, 1, 1);
+        x.write(9, 0, 1);
+        Due.is("the greatest number", x.victim(), 9);
+        Due.is("both", x.look(17), 2 + 512);
     }
 
     /** "(alike: the least number; NONE)" */

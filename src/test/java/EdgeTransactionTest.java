@@ -34,6 +34,7 @@ public final class EdgeTransactionTest {
         commitWithTopsOpen();
         commitForgets();
         abortAtOnce();
+        abortDropsMarks();
         rollTooFewOrTooMany();
         rollToItsEnd();
         cursorStays();
@@ -308,6 +309,12 @@ public final class EdgeTransactionTest {
         x.back(1, 0);
         Due.is("HOW", x.log(32 + 6), 0);
         Due.is("V", x.log(32 + 7), 255);
+        Due.is("at(7, 0)", x.at(7, 0), 255);
+        x.write(1, 7, 5);
+        x.save(1);
+        x.write(1, 7, 9);
+        x.back(1, 1);
+        Due.is("it becomes V, not V more", x.at(7, 0), 5);
     }
 
     /** "SAVEPOINTS (up to 8 ..)"; "NONE if it can't be, or there are eight" */
@@ -542,6 +549,28 @@ public final class EdgeTransactionTest {
         Due.is("PREV", x.record(20, 3), 14);
         Due.is("gone", x.tx(1, 0), 0);
         Due.is("CURSOR", x.tx(1, 2), 0);
+    }
+
+    /** "(savepoints, TOPS gone)" */
+    private static void abortDropsMarks() {
+        for (int t : new int[] {1, 9}) {
+            AheadStore x = new AheadStore();
+            x.act(t, 0);
+            x.save(t);
+            x.save(t);
+            x.act(t, 3);
+            x.act(t, 3);
+            Due.is("SAVEPOINTS", x.tx(t, 3), 2);
+            Due.is("TOPS", x.tx(t, 4), 2);
+            x.act(t, 2);
+            Due.is("SAVEPOINTS", x.tx(t, 3), 0);
+            Due.is("TOPS", x.tx(t, 4), 0);
+            x.roll(t, 1);
+            x.act(t, 0);
+            Due.is("SAVEPOINTS of the next one", x.tx(t, 3), 0);
+            Due.is("TOPS of the next one", x.tx(t, 4), 0);
+            Due.yes("it commits", x.act(t, 1));
+        }
     }
 
     /** "ROLL BACK n (1 .. 20) steps" */
