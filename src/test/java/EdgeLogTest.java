@@ -268,10 +268,12 @@ public final class EdgeLogTest {
         int[][] want = {{8, 1, -1, -1}, {14, 2, -1, 0}, {23, 3, -1, 255}, {31, 4, 14, 255}, {42, 4, 8, 0}, {53, 9, 42, -1},
             {61, 8, -1, -1}, {67, 10, -1, -1}, {85, 6, -1, -1}, {91, 7, -1, -1}, {97, 1, -1, -1}, {103, 5, -1, -1},
             {109, 7, -1, -1}};
+        int[] lengths = {0, 6, 9, 8, 11, 6, 6, 6, 6, 8};
         for (int[] w : want) {
             Due.is("KIND of " + w[0], x.record(w[0], 0), w[1]);
             Due.is("NEXT of " + w[0], x.record(w[0], 4), w[2]);
             Due.is("ADDRESS of " + w[0], x.record(w[0], 5), w[3]);
+            Due.is("LENGTH of " + w[0], x.record(w[0], 1), w[1] == 10 ? 18 : lengths[w[1]]);
         }
         Due.is("WHO of 8", x.record(61, 2), 0);
         Due.is("PREV of 8", x.record(61, 3), 0);

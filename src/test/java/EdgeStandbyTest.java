@@ -3,6 +3,7 @@ import java.util.function.Consumer;
 /** The edges of THE STANDBY, TO TAKE OVER and AS OF (term 8), and of promises 24 to 26. */
 public final class EdgeStandbyTest {
     public static void main(String[] args) {
+        emptyAtFirst();
         shipOutside();
         shipOfNothing();
         shipOneByOne();
@@ -37,6 +38,18 @@ public final class EdgeStandbyTest {
         x.add(1, 0, 100);
         x.keep(0, 0);
         x.add(1, 0, 100);
+    }
+
+    /** "(all 0 at first) .. (both 8 at first)" */
+    private static void emptyAtFirst() {
+        AheadStore x = new AheadStore();
+        Due.is("RECEIVED", x.look(15), 8);
+        Due.is("DONE", x.look(16), 8);
+        for (int a = 0; a < 256; a += 15) {
+            Due.is("stand(" + a + ", 0)", x.stand(a, 0), 0);
+            Due.is("stand(" + a + ", 1)", x.stand(a, 1), 0);
+            Due.is("stand(" + a + ", 2)", x.stand(a, 2), 0);
+        }
     }
 
     /** "SHIP n (1 .. 999)": "NONE if n can't be" */

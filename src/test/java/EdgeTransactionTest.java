@@ -444,6 +444,19 @@ public final class EdgeTransactionTest {
         Due.yes("close", x.act(1, 4));
         Due.is("its NEXT", x.record(59, 4), 8);
         Due.no("close", x.act(1, 4));
+        for (int many = 1; many <= 4; many++) {
+            AheadStore y = new AheadStore();
+            y.act(1, 0);
+            y.save(1);
+            y.write(1, 0, 1);
+            for (int i = 0; i < many; i++) {
+                y.act(1, 3);
+            }
+            Due.is("back over " + many, y.back(1, 0), 1);
+            Due.is("TOPS of " + many, y.tx(1, 4), 0);
+            Due.no("close, of " + many, y.act(1, 4));
+            Due.yes("commit", y.act(1, 1));
+        }
     }
 
     /** "TOPS open (up to 4 ..)" */
